@@ -1,0 +1,109 @@
+/** What the tests share: calls in short, and a count of the answers that are not due. */
+final class Check {
+    private static int wrong = 0;
+
+    private Check() {
+    }
+
+    static void same(String what, long got, long want) {
+        if (got != want) {
+            tell(what, Long.toString(got), Long.toString(want));
+        }
+    }
+
+    static void same(String what, String got, String want) {
+        if (!got.equals(want)) {
+            tell(what, got, want);
+        }
+    }
+
+    private static void tell(String what, String got, String want) {
+        wrong++;
+        System.out.println(what + ": answered " + got + ", due is " + want);
+    }
+
+    /** A call that must throw just this class. */
+    static void fails(String what, Class<? extends RuntimeException> due, Runnable call) {
+        String got = "nothing";
+        try {
+            call.run();
+        } catch (RuntimeException e) {
+            got = e.getClass().getSimpleName();
+        }
+        same(what + " throws", got, due.getSimpleName());
+    }
+
+    static void feedAll(LineAssembler x, String text) {
+        for (int at = 0; at < text.length(); at += 8) {
+            int n = Math.min(8, text.length() - at);
+            long chars = 0;
+            for (int i = 0; i < n; i++) {
+                chars = chars << 8 | text.charAt(at + i);
+            }
+            same("feed of " + text.substring(at, at + n), x.feed(chars, n) ? 1 : 0, 1);
+        }
+    }
+
+    static LineAssembler fed(String text) {
+        LineAssembler x = new LineAssembler();
+        feedAll(x, text);
+        return x;
+    }
+
+    /** An object with a text that must have no fault. */
+    static LineAssembler assembled(String text) {
+        LineAssembler x = fed(text);
+        same("assemble of " + text, x.assemble(), 0);
+        return x;
+    }
+
+    /** The text must have this fault in this line. */
+    static void fault(String text, int fault, int line) {
+        same("assemble of " + text, fed(text).assemble(), fault + 16L * line);
+    }
+
+    /** The bytes of all, as the text's hexadecimal digits, the first byte first. */
+    static String bytes(LineAssembler x) {
+        StringBuilder all = new StringBuilder();
+        for (int k = 0; k < x.size(2); k++) {
+            all.append(String.format("%02x", x.byteAt(k)));
+        }
+        return all.toString();
+    }
+
+    static void bytes(String text, String due) {
+        LineAssembler x = fed(text);
+        int answer = x.assemble();
+        same("bytes of " + text, answer == 0 ? bytes(x) : "fault " + answer, due);
+    }
+
+    /** A statement's bytes as one number, the lowest first, as instructions are written. */
+    static void word(String text, long due) {
+        LineAssembler x = fed(text);
+        int answer = x.assemble();
+        long got = -answer;
+        for (int k = answer == 0 ? x.size(2) - 1 : -1; k >= 0; k--) {
+            got = got << 8 | x.byteAt(k);
+        }
+        same("word of " + text, got, due);
+    }
+
+    static String name(LineAssembler x, int k) {
+        StringBuilder all = new StringBuilder();
+        try {
+            for (int i = 0; i < 40; i++) {
+                all.append(x.letter(k, i));
+            }
+        } catch (IndexOutOfBoundsException e) {
+            return all.toString();
+        }
+        return "no end";
+    }
+
+    static void end() {
+        if (wrong != 0) {
+            System.out.println(wrong + " answers are not as due");
+            System.exit(1);
+        }
+    }
+}
