@@ -37,8 +37,9 @@ public final class LineAssembler {
     private static final int LABEL_BACK = 8;
     private static final int LABEL_AHEAD = 9;
     private static final int NEGATE = 10;
-    private static final int HIGH_PART = 11;
-    private static final int LOW_PART = 12;
+    private static final int INVERT = 11;
+    private static final int HIGH_PART = 12;
+    private static final int LOW_PART = 13;
 
     // What a name has been defined as.
     private static final int LABEL = 1;
@@ -1018,7 +1019,7 @@ public final class LineAssembler {
                     signs.add(NEGATE);
                     return true;
                 case '~':
-                    signs.add(kind);
+                    signs.add(INVERT);
                     return true;
                 case '(':
                     signs.add(kind);
@@ -1063,7 +1064,7 @@ public final class LineAssembler {
         private static int level(int sign) {
             switch (sign) {
                 case NEGATE:
-                case '~':
+                case INVERT:
                 case HIGH_PART:
                 case LOW_PART:
                     return 7;
@@ -1193,7 +1194,7 @@ public final class LineAssembler {
         int readLine(int number) {
             program.lineNumber = number;
             int fault = 0;
-            for (int n = tokens.left(); n > 0 && fault == 0 && tokens.kind(1) == ':'; n--) {
+            for (int n = tokens.left(); n > 0 && fault == 0 && isLabel(); n--) {
                 fault = readLabel();
             }
             if (fault == 0 && tokens.kind(0) != END) {
@@ -1204,6 +1205,10 @@ public final class LineAssembler {
             }
             tokens.skip(1);
             return fault;
+        }
+
+        private boolean isLabel() {
+            return tokens.kind(0) != END && tokens.kind(1) == ':';
         }
 
         private int readLabel() {
