@@ -10,6 +10,8 @@ public final class LineAssembler {
     private static final int LONGEST_NAME = 31;
     private static final int HIGHEST_END = 32768;
     private static final int DATA_STEP = 1024;
+    private static final int LOWEST = 0x80000000;
+    private static final int HIGHEST = 0x7FFFFFFF;
 
     // The faults, as assemble() tells them.
     private static final int WRONG_TOKEN = 1;
@@ -1347,7 +1349,7 @@ public final class LineAssembler {
                 return WRONG_TOKEN;
             }
             tokens.skip(2);
-            int fault = readFixed(Integer.MIN_VALUE, Integer.MAX_VALUE);
+            int fault = readFixed(LOWEST, HIGHEST);
             if (fault == 0) {
                 names.define(name, CONSTANT, formulas.result);
                 program.constants++;
@@ -1414,7 +1416,7 @@ public final class LineAssembler {
                 return WRONG_TOKEN;
             }
             tokens.skip(1);
-            int fault = readFixed(Integer.MIN_VALUE, Integer.MAX_VALUE);
+            int fault = readFixed(LOWEST, HIGHEST);
             if (fault == 0) {
                 addLoad(bits, formulas.result);
             }

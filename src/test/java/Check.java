@@ -77,15 +77,18 @@ final class Check {
         same("bytes of " + text, answer == 0 ? bytes(x) : "fault " + answer, due);
     }
 
-    /** A statement's bytes as one number, the lowest first, as instructions are written. */
-    static void word(String text, long due) {
-        LineAssembler x = fed(text);
-        int answer = x.assemble();
-        long got = -answer;
-        for (int k = answer == 0 ? x.size(2) - 1 : -1; k >= 0; k--) {
-            got = got << 8 | x.byteAt(k);
+    /** A statement's bytes as instructions are written: the last byte first. */
+    static void word(String text, String due) {
+        StringBuilder first = new StringBuilder();
+        for (int i = due.length() - 2; i >= 0; i -= 2) {
+            first.append(due, i, i + 2);
         }
-        same("word of " + text, got, due);
+        bytes(text, first.toString());
+    }
+
+    /** A 4-byte value of an expression, as .word has it. */
+    static void value(String expression, int due) {
+        word(".word " + expression, String.format("%08x", due));
     }
 
     static String name(LineAssembler x, int k) {
