@@ -245,8 +245,8 @@ public final class LineAssembler {
      */
     private static final class Names {
         private static final int SLOTS = 512;
-        private static final String REGISTERS =
-                "zero ra sp gp tp t0 t1 t2 s0 s1 a0 a1 a2 a3 a4 a5 a6 a7 s2 s3 s4 s5 s6 s7 s8 s9 s10 s11 t3 t4 t5 t6 ";
+        private static final String FROM_0 = "zero ra sp gp tp t0 t1 t2 s0 s1 a0 a1 a2 a3 a4 a5 a6 a7 ";
+        private static final String FROM_18 = "s2 s3 s4 s5 s6 s7 s8 s9 s10 s11 t3 t4 t5 t6 ";
 
         /** What a name is defined as, and the constant's value or the label's item. */
         final Row sorts = new Row();
@@ -391,18 +391,23 @@ public final class LineAssembler {
                 put('0' + i % 10);
                 finishRegister(i);
             }
-            int next = 0;
-            for (int i = 0; i < REGISTERS.length(); i++) {
-                int c = REGISTERS.charAt(i);
+            enterRow(FROM_0, 0);
+            enterRow(FROM_18, 18);
+            enterRow("fp ", 8);
+        }
+
+        /** Registers from a number on, each name with a blank behind it. */
+        private void enterRow(String row, int first) {
+            int number = first;
+            for (int i = 0; i < row.length(); i++) {
+                int c = row.charAt(i);
                 if (c == ' ') {
-                    finishRegister(next);
-                    next++;
+                    finishRegister(number);
+                    number++;
                 } else {
                     put(c);
                 }
             }
-            putAll("fp");
-            finishRegister(8);
         }
 
         private void finishRegister(int number) {

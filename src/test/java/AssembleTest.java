@@ -6,6 +6,7 @@ final class AssembleTest {
         testAgain();
         testLineNumbers();
         testNamesAreForgotten();
+        testManyNames();
         Check.end();
     }
 
@@ -85,5 +86,31 @@ final class AssembleTest {
         x.clear();
         Check.feedAll(x, ".equ m, 4\nli a0, k");
         Check.same("a constant of an older text", x.assemble(), 5 + 32);
+    }
+
+    /** So many that they meet in every way, and others in their place afterwards. */
+    private static void testManyNames() {
+        LineAssembler x = new LineAssembler();
+        for (int time = 0; time < 3; time++) {
+            StringBuilder text = new StringBuilder();
+            for (int i = 0; i < 250; i++) {
+                text.append(nameOf(i + 100 * time)).append(":.byte ").append(nameOf(249 - i + 100 * time));
+                text.append('\n');
+            }
+            x.clear();
+            Check.feedAll(x, text.toString());
+            Check.same("assemble of many names", x.assemble(), 0);
+            for (int i = 0; i < 250; i++) {
+                Check.same("name " + i, Check.name(x, i), nameOf(i + 100 * time));
+                Check.same("address " + i, x.address(i), i);
+                Check.same("byte " + i, x.byteAt(i), 249 - i);
+            }
+            Check.feedAll(x, ".byte " + nameOf(100 * time + 250));
+            Check.same("assemble with one more", x.assemble(), 8 + 16 * 251);
+        }
+    }
+
+    private static String nameOf(int i) {
+        return Integer.toString(i * 7919 % 46656 + 46656, 36).replaceFirst("^[0-9]", "_");
     }
 }
