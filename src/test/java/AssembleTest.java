@@ -7,6 +7,7 @@ final class AssembleTest {
         testLineNumbers();
         testNamesAreForgotten();
         testManyNames();
+        testLikeNames();
         Check.end();
     }
 
@@ -94,8 +95,8 @@ final class AssembleTest {
         for (int time = 0; time < 3; time++) {
             StringBuilder text = new StringBuilder();
             for (int i = 0; i < 250; i++) {
-                text.append(nameOf(i + 100 * time)).append(":.byte ").append(nameOf(249 - i + 100 * time));
-                text.append('\n');
+                text.append(nameOf(i + 100 * time)).append(":.byte ");
+                text.append(nameOf(249 - i + 100 * time)).append('\n');
             }
             x.clear();
             Check.feedAll(x, text.toString());
@@ -112,5 +113,22 @@ final class AssembleTest {
 
     private static String nameOf(int i) {
         return Integer.toString(i * 7919 % 46656 + 46656, 36).replaceFirst("^[0-9]", "_");
+    }
+
+    /** Names that differ in one place alone. */
+    private static void testLikeNames() {
+        String letters = "abcdefghijklmnopqrstuvwxyzABCDEFGHIJKLMNOPQRSTUVWXYZ_.$";
+        for (int front = 0; front < 6; front++) {
+            StringBuilder text = new StringBuilder();
+            for (int i = 0; i < letters.length(); i++) {
+                text.append("______", 0, front).append(letters.charAt(i));
+                text.append("______", front, 6).append(":.byte 1\n");
+            }
+            LineAssembler x = Check.assembled(text.toString());
+            for (int i = 0; i < letters.length(); i++) {
+                Check.same("letter of name " + i, x.letter(i, front), letters.charAt(i));
+                Check.same("address " + i, x.address(i), i);
+            }
+        }
     }
 }

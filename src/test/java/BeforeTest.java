@@ -20,6 +20,8 @@ final class BeforeTest {
         LineAssembler z = Check.assembled(".data\na:\n.text\nb:\n.data\nc:");
         before(z, 0, 2);
         before(Check.assembled("1: nop"), 4, -1);
+        before(Check.assembled("a:"), 0, 0);
+        before(Check.assembled("nop\na: nop\n.data\nb:"), 1000, 0);
         before(Check.assembled(""), 0, -1);
         Check.feedAll(z, "\nfoo");
         before(z, 0, 2);

@@ -53,6 +53,9 @@ final class ExpressionTest {
         Check.value("~1+1", -1);
         Check.value("-(2+3)", -5);
         Check.value("2*-3", -6);
+        Check.value("(1|2)*4", 12);
+        Check.value("(1|2^3)*(4&6|8)", (1 | 2 ^ 3) * (4 & 6 | 8));
+        Check.value("-(1|2)<<(1|1)", -6);
     }
 
     private static void testRound() {

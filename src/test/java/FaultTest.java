@@ -7,6 +7,7 @@ final class FaultTest {
         testFixedOrder();
         testLaterOrder();
         testTaken();
+        testAfterFaults();
         Check.end();
     }
 
@@ -67,6 +68,8 @@ final class FaultTest {
         Check.fault(".space l l", 5, 1);
         Check.fault(".align 11 11", 6, 1);
         Check.fault(".align 10 11", 1, 1);
+        Check.fault(".space -1)", 6, 1);
+        Check.fault(".space 1)", 1, 1);
     }
 
     private static void testLaterOrder() {
@@ -82,6 +85,8 @@ final class FaultTest {
         Check.fault("lw a0, (a0)(a0)", 8, 1);
         Check.fault("jal (a0)", 8, 1);
         Check.fault("j a0", 8, 1);
+        Check.fault("j .\n.byte 1\nj 1 / 0", 9, 3);
+        Check.fault("j .\n.byte 1\nj l", 8, 3);
         // All is laid out before these: too much comes first.
         Check.fault("j l\n.space 32768", 7, 0);
     }
@@ -98,5 +103,21 @@ final class FaultTest {
             Check.fault(name, 2, 1);
         }
         Check.fault("x32: s12: t7: a8: fP:", 0, 0);
+    }
+
+    /** No fault leaves anything for the next text. */
+    private static void testAfterFaults() {
+        String[] wrong = {"nop ;", "foo", "jr 5", "l: l:", ".space l", ".space -1", ".space 32768\nnop",
+            "j l", ".word 1 / 0", "addi a0, a0, 5000", ".word (((1", "li a0, 1 / 0", "\"abc", ".data\n;"};
+        LineAssembler x = new LineAssembler();
+        for (String text : wrong) {
+            Check.feedAll(x, text);
+            Check.same("has a fault: " + text, x.assemble() == 0 ? 1 : 0, 0);
+            x.clear();
+            Check.feedAll(x, "l: j l + (4 | 2) / 3\n.equ k, 1 + 1\n.ascii \"z\"\nfoo: .byte k");
+            Check.same("assemble after " + text, x.assemble(), 0);
+            Check.same("bytes after " + text, Check.bytes(x), "09a07a02");
+            x.clear();
+        }
     }
 }

@@ -117,6 +117,8 @@ final class RangeTest {
         for (String text : early) {
             Check.fault(text, 1, 1);
         }
+        Check.bytes("jalr a1\njalr a1,0(a2)\njalr a1#\nnop",
+                "e7800500" + "e7050600" + "e7800500" + "13000000");
         String[] registers = {"add 5,a0,a0", "add ,a0", "add a0,(", "add a0,l,a0", "lw a0,4(4)",
             "lw a0,4(l)", "lw 4(a0)", "beq a0,5,l", "jalr 5", "jalr l", "jr l", "la l,5", "li 5,5",
             "lr.w a0,(5)", "lr.w a0,()", "c.jr 5", "rdtime 5", "mv a0,5", "beqz 5,5", "neg 1f,a0"};

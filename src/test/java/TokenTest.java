@@ -63,6 +63,7 @@ final class TokenTest {
         for (String number : wrong) {
             Check.fault(".word " + number, 1, 1);
             Check.fault("jr " + number, 1, 1);
+            Check.fault("nop " + number + "\nnop", 1, 1);
         }
     }
 
@@ -84,6 +85,7 @@ final class TokenTest {
             "'a'_", "' a '", "'\n'", "'\\N'", "'\\1'"};
         for (String quoted : wrong) {
             Check.fault(".word " + quoted, 1, 1);
+            Check.fault("nop " + quoted + "\nnop", 1, 1);
         }
         Check.fault("'1': nop", 1, 1);
     }
