@@ -125,11 +125,11 @@ final class RangeTest {
         for (String text : registers) {
             Check.fault(text, 3, 1);
         }
-        String[] unknown = {"foo", "a0", "zero a0", "x5: foo".substring(4), "hi", "lo", "add.aq",
+        String[] unknown = {"foo", "a0", "zero a0", "foo a0", "hi", "lo", "add.aq",
             "lr.w.rlaq a0,(a0)", "lr.w.", "amoadd a0,a0,(a0)", "sub.w", "ADD a0,a0,a0", "subi",
             "c.subi", "c.add.aq a0,a0", ".", ".equ.", ".bytes 1", "beqzz", "fence.j"};
         for (String text : unknown) {
-            Check.fault(text.trim(), 2, 1);
+            Check.fault(text, 2, 1);
         }
     }
 }

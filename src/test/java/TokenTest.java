@@ -35,6 +35,9 @@ final class TokenTest {
         Check.fault(".word " + longest + "F", 1, 1);
         Check.fault("jr " + longest + "F", 1, 1);
         Check.fault("jr " + longest, 3, 1);
+        Check.fault("nop " + longest + "F\nnop", 1, 1);
+        Check.fault(longest + "F\nnop", 1, 1);
+        Check.fault(longest + "\nnop", 2, 1);
         LineAssembler x = Check.assembled("_.$aZ09: $: _: .: ..: A: a: add: .word: hi:f:b1:");
         String[] due = {"_.$aZ09", "$", "_", ".", "..", "A", "a", "add", ".word", "hi", "f", "b1"};
         for (int k = 0; k < due.length; k++) {
@@ -107,6 +110,8 @@ final class TokenTest {
         Check.fault("\"a\": nop", 1, 1);
         Check.fault("jr \"a\"", 3, 1);
         Check.fault("jr \"a", 1, 1);
+        Check.fault("nop \"a\nnop", 1, 1);
+        Check.fault("nop \"\\a", 1, 1);
     }
 
     private static void testLabels() {
