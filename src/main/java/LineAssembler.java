@@ -272,7 +272,10 @@ public final class LineAssembler {
             for (int i = 0; i < Op.ALL.length; i++) {
                 enterOperation(Op.ALL[i], i);
             }
-            enterRegisters();
+            enterNumbered();
+            enterRow(FROM_0, 0);
+            enterRow(FROM_18, 18);
+            enterRow("fp ", 8);
             dot = enter(".");
             hi = enter("hi");
             lo = enter("lo");
@@ -382,7 +385,7 @@ public final class LineAssembler {
             registers.add(0);
         }
 
-        private void enterRegisters() {
+        private void enterNumbered() {
             for (int i = 0; i < 32; i++) {
                 put('x');
                 if (i >= 10) {
@@ -391,9 +394,6 @@ public final class LineAssembler {
                 put('0' + i % 10);
                 finishRegister(i);
             }
-            enterRow(FROM_0, 0);
-            enterRow(FROM_18, 18);
-            enterRow("fp ", 8);
         }
 
         /** Registers from a number on, each name with a blank behind it. */
@@ -419,8 +419,13 @@ public final class LineAssembler {
     }
 
     /**
-     * The statements. A shape says the operands: signs, registers (d a b s n l m D A) and the mark
-     * of at most one expression; the word is what stands in the bytes beside them.
+     * The statements. A shape says the operands; the word is what stands in the bytes beside them.
+     * Registers: d a b as the document has them; in the short ones n is a d that is not 0, l one
+     * that is not 2, s a b, m one that is not 0, D and A are 8 .. 15 in bits 2 and 7.
+     * Numbers: i and o of loads and stores, h of shifts, u the upper 20 bits; short N, U (not 0),
+     * H, 4 and 6 (c.addi4spn, c.addi16sp), w, L and S (c.lw, c.lwsp, c.swsp).
+     * Targets: j of jal, J and B of short jumps and branches, and those that get longer: x jumps,
+     * t branches, z branches that may be short at first; of la it is @.
      */
     private enum Op {
         ADD("add", "d,a,b", 51, 0, 0), SUB("sub", "d,a,b", 51, 0, 32),
