@@ -1,8 +1,14 @@
 /** What the tests share: calls in short, and a count of the answers that are not due. */
 final class Check {
     private static int wrong = 0;
+    private static String sentence = "";
 
     private Check() {
+    }
+
+    /** The document's words that the calls from here on test. */
+    static void says(String words) {
+        sentence = words;
     }
 
     static void same(String what, long got, long want) {
@@ -19,7 +25,9 @@ final class Check {
 
     private static void tell(String what, String got, String want) {
         wrong++;
-        System.out.println(what + ": answered " + got + ", due is " + want);
+        String call = what.length() > 200 ? what.substring(0, 200) + " .." : what;
+        System.out.println(call + ": answered " + got + ", due is " + want
+                + (sentence.isEmpty() ? "" : " (\"" + sentence + "\")"));
     }
 
     /** A call that must throw just this class. */
@@ -86,9 +94,24 @@ final class Check {
         bytes(text, first.toString());
     }
 
+    /** A statement's four bytes, by their value. */
+    static void word(String text, int due) {
+        word(text, String.format("%08x", due));
+    }
+
+    /** A statement's two bytes, by their value. */
+    static void half(String text, int due) {
+        word(text, String.format("%04x", due));
+    }
+
+    /** The text must have no fault. */
+    static void good(String text) {
+        fault(text, 0, 0);
+    }
+
     /** A 4-byte value of an expression, as .word has it. */
     static void value(String expression, int due) {
-        word(".word " + expression, String.format("%08x", due));
+        word(".word " + expression, due);
     }
 
     static String name(LineAssembler x, int k) {
