@@ -214,6 +214,19 @@ final class EdgeSectionTest {
                 Check.same("zero " + k + " up to the data behind " + text, x.byteAt(k), 0);
             }
         }
+        // The text may end right where the data begins, whichever of them stands first.
+        for (String text : before) {
+            int length = Check.assembled(text).size(0);
+            String code = ".text\n.space " + (1024 - length) + "\n" + text + "\n";
+            String bytes = ".data\n.ascii \"xy\"\n";
+            for (String both : new String[] {code + bytes, bytes + code}) {
+                LineAssembler x = Check.assembled(both);
+                Check.same("data behind " + text, x.size(1), 1024);
+                Check.same("its first byte", x.byteAt(1024), 'x');
+                Check.same("its second byte", x.byteAt(1025), 'y');
+                Check.same("before " + text, x.byteAt(1023 - length), 0);
+            }
+        }
         // A text behind another one is not seen in the zeros between them.
         Check.bytes(".ascii \"ab\"\n.space 2\n.ascii \"cd\"", "6162" + "0000" + "6364");
         Check.bytes(".data\n.ascii \"cd\"\n.text\n.ascii \"ab\"", "6162" + "00".repeat(1022) + "6364");
